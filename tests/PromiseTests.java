@@ -262,7 +262,8 @@ public final class PromiseTests {
     dueFault("weigh 1 2 10 2;", 4, 10);
     dueFault("weigh 1 2 1 0;", 4, 12);
     dueFault("weigh 1 2 1 100;", 4, 12);
-    dueRight("weigh 9 9 9 99;", 0);
+    dueRight("weigh 9 9 9 99;rise 9;close 4 9;stress 4 9;move 4;", 0);
+    dueRight("weigh 0 0 0 1;rise 0;close 0 0;stress 1 0;move 0;", 0);
     dueFault("weigh 1 2 1 2;weigh 1 2 1 2;", 2, 14);
     dueFault("stress 0;", 4, 7);
     dueFault("stress 5;", 4, 7);
@@ -540,6 +541,11 @@ public final class PromiseTests {
     due("the first of like ones", y.syllable(0, 1, 1, 0), 1);
     due("the longest told one", y.syllable(1, 0, 1, 0), 1);
     // JOINED by the rise alone: rough; what stays is LEGAL, where all was not
+    SyllableMaker v = by("sound a 9 peak;sound b 1;weigh 3 5 4 13;", "aab abb babb");
+    dueSyllable(v, 0, 0, 0, 0, 0, 2, 1, 9, 0);
+    dueSyllable(v, 1, 0, 0, 0, 0, 1, 2, 11, 0);
+    due("HEAVY from just 1", by("sound a 9 peak;weigh 1 0 0 1;", "a").syllable(0, 0, 0, 5), 1);
+    due("HEAVY of LONG ones, 0", by("sound a 9 peak;weigh 1 0 0 1;", "aa").syllable(0, 0, 0, 5), 0);
     SyllableMaker z = by("sound a 9 peak;sound p 1;sound r 6;rise 3;move 2;cost rough 3;cost burst 7;cost clash 2;close 4 1;", "apr arr");
     dueSyllable(z, 0, 0, 0, 0, 0, 1, 2, 3, 1, 7);
     dueSyllable(z, 0, 2, 0, 0, 0, 1, 0, 1, 0, 0);
@@ -668,6 +674,10 @@ public final class PromiseTests {
     due("put in", x.far(0, 6), 5);
     due("left out", x.far(6, 0), 5);
     due("put in ahead", x.far(6, 7), 5);
+    due("three for one", x.far(100, 4), 11);
+    due("one for three", x.far(4, 100), 11);
+    due("two ahead left out", x.far(100, 2), 10);
+    due("two ahead put in", x.far(2, 100), 10);
     // the a left out, two b put in: less than b for a
     due("two of three", x.far(6, 101), 15);
     due("learnt", x.far(100, 0), 10);

@@ -1063,14 +1063,17 @@ public final class SyllableMaker {
             return true;
         }
 
-        /** How many rows of so many SOUNDS, no PEAKS, have each that much more OPEN (or less) at least than the one ahead. */
-        int countChains(int size, int step, boolean upwards) {
+        /**
+         * How many rows of so many SOUNDS, no PEAKS, have each that much more OPEN at least than the one ahead.
+         * As many have each that much less OPEN: the same rows, read from behind.
+         */
+        int countChains(int size, int step) {
             for (int i = 0; i < MOST; i++) {
                 chains[i] = i < count && !peaks[i] ? 1 : 0;
             }
             for (int length = 2; length <= size; length++) {
                 for (int i = 0; i < MOST; i++) {
-                    longerChains[i] = i < count && !peaks[i] ? chainsBefore(i, step, upwards) : 0;
+                    longerChains[i] = i < count && !peaks[i] ? chainsBefore(i, step) : 0;
                 }
                 System.arraycopy(longerChains, 0, chains, 0, MOST);
             }
@@ -1081,11 +1084,10 @@ public final class SyllableMaker {
             return sum;
         }
 
-        private int chainsBefore(int last, int step, boolean upwards) {
+        private int chainsBefore(int last, int step) {
             int sum = 0;
             for (int i = 0; i < count && i < MOST; i++) {
-                int more = openOf(last) - openOf(i);
-                if ((upwards ? more : -more) >= step) {
+                if (openOf(last) - openOf(i) >= step) {
                     sum += chains[i];
                 }
             }
@@ -1115,17 +1117,21 @@ public final class SyllableMaker {
         private final int[] costs = new int[COSTS];
         int toldCount;
         int glideCount;
-        int rise = NONE;
-        int closeMost = 4;
+        int rise;
+        int closeMost;
         int closeFall;
-        int shortWeight = 1;
-        int longWeight = 2;
-        int closingWeight = 1;
-        int heavyFrom = 2;
-        int stressBack = 2;
+        int shortWeight;
+        int longWeight;
+        int closingWeight;
+        int heavyFrom;
+        int stressBack;
         int stressWindow;
-        int help = NONE;
-        int move = 1;
+        int help;
+        int move;
+
+        Law() {
+            clear();
+        }
 
         void clear() {
             sounds.clear();
@@ -1261,7 +1267,7 @@ public final class SyllableMaker {
             if (size > MOST_OPENING) {
                 return 0;
             }
-            int number = rise == NONE ? 0 : sounds.countChains(size, rise, true);
+            int number = rise == NONE ? 0 : sounds.countChains(size, rise);
             for (int i = 0; i < toldCount && i < MOST_TOLD; i++) {
                 if (Row.sizeOf(told[i]) == size && !isRising(told[i])) {
                     number++;
@@ -1285,7 +1291,7 @@ public final class SyllableMaker {
             if (size > closeMost) {
                 return 0;
             }
-            return size == 0 ? 1 : sounds.countChains(size, closeFall, false);
+            return size == 0 ? 1 : sounds.countChains(size, closeFall);
         }
     }
 
