@@ -54,6 +54,7 @@ public final class PromiseTests {
     forgetting();
     costs();
     undoing();
+    undoneWords();
     abouts();
     System.out.println(wrong == 0 ? "all promises hold" : wrong + " answers are not as due");
     if (wrong != 0) System.exit(1);
@@ -210,6 +211,10 @@ public final class PromiseTests {
     dueFault("sound a 9;" + (char) 0, 1, 10);
     dueFault("sound a -9;", 1, 8);
     dueFault("sounda 9;", 2, 0);
+    dueFault("hound a 9;", 2, 0);
+    dueFault("soune a 9;", 2, 0);
+    dueFault("cost dare 9;", 2, 5);
+    dueFault("sound a 9 beak;", 2, 10);
     dueFault("sound a 9 peakX;", 1, 14);
     dueFault("sound a 1000z;", 1, 8);
   }
@@ -1035,6 +1040,25 @@ public final class PromiseTests {
     due("SPEECH keeps ACTS", say(x, "ta"), 1);
     due("undo()", x.undo(), 0);
     due("about(11)", x.about(11), 50);
+  }
+
+  private static void undoneWords() {
+    promise = "30 undo, words";
+    SyllableMaker x = by(BASE + "word snata;word asta;word pa;", "tapn");
+    // two words are forgotten, by the oldest and the latest of the twelve ACTS that are kept
+    x.cost(1, 60);
+    x.forget(100);
+    for (int i = 0; i < 10; i++) x.cost(1, 30 + i);
+    x.forget(100);
+    due("pa is left", x.at(100, 0), P);
+    for (int i = 11; i >= 0; i--) due("undo()", x.undo(), i);
+    due("snata is the first", x.at(100, 1), N);
+    due("asta is the second", x.at(101, 1), S);
+    due("pa is the third", x.at(102, 0), P);
+    due("the oldest stays", x.about(11), 60);
+    x.learn(0);
+    due("an empty law", x.law(), 0);
+    due("a law keeps no ACTS", x.undo(), NONE);
   }
 
   private static void abouts() {
