@@ -21,7 +21,7 @@ public final class RulesTest {
       "int forget(int)", "int cost(int,int)", "int undo()", "int about(int)"));
   private static final String[] FORBIDDEN = {
       "throw", "throws", "try", "catch", "finally", "synchronized", "assert", "import", "package", "lambda", "Object",
-      "equals", "hashCode", "toString", "Random", "Thread", "Exception", "Error", "native", "volatile", "transient"};
+      "equals", "hashCode", "toString", "Random", "Thread", "Exception", "Error", "native", "volatile", "transient", "MAX_VALUE", "MIN_VALUE"};
 
   private static int wrong = 0;
 

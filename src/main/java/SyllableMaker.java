@@ -290,11 +290,11 @@ public final class SyllableMaker {
         }
         int bestN = 0;
         int bestF = 0;
-        int fewest = Integer.MAX_VALUE;
+        int fewest = NONE;
         for (int n = 2; n <= 4; n++) {
             for (int f = 0; f < n; f++) {
                 int misfits = spoken.countMisfits(rules, n, f);
-                if (misfits < fewest) {
+                if (fewest == NONE || misfits < fewest) {
                     bestN = n;
                     bestF = f;
                     fewest = misfits;
