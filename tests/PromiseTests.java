@@ -1,6 +1,5 @@
 /** For each promise: ordinary inputs, the edges that the document names, wrong inputs. */
-public final class PromiseTests {
-  private static final int NONE = SyllableMaker.NONE;
+public final class PromiseTests extends Bench {
   private static final String BASE =
       "sound a 9 peak;sound e 9 peak;sound i 8 peak;sound p 1;sound t 1;sound s 2;sound n 4;sound l 5;sound r 6;"
       + "open st;glide ai;rise 3;close 2 1;cost bare 5;cost shut 2;cost rough 3;cost wild 9;cost burst 7;cost clash 4;";
@@ -13,9 +12,6 @@ public final class PromiseTests {
   private static final int N = 6;
   private static final int L = 7;
   private static final int R = 8;
-
-  private static int wrong = 0;
-  private static String promise = "";
 
   private PromiseTests() { }
 
@@ -56,60 +52,7 @@ public final class PromiseTests {
     undoing();
     undoneWords();
     abouts();
-    System.out.println(wrong == 0 ? "all promises hold" : wrong + " answers are not as due");
-    if (wrong != 0) System.exit(1);
-  }
-
-  private static void due(String call, long got, long want) {
-    if (got == want) return;
-    wrong++;
-    System.out.println(promise + ": " + call + " answered " + got + ", due is " + want);
-  }
-
-  private static int put(SyllableMaker x, String text) {
-    int size = x.about(6) + text.length();
-    for (int i = 0; i < text.length(); i += 20) {
-      int[] n = new int[5];
-      for (int j = 0; j < 20; j++) n[j / 4] = n[j / 4] << 8 | (i + j < text.length() ? text.charAt(i + j) : 0);
-      if (x.feed(n[0], n[1], n[2], n[3], n[4]) == NONE) return NONE;
-    }
-    return x.end(size);
-  }
-
-  private static int law(SyllableMaker x, String text) {
-    due("the tape of a law", put(x, text), text.length());
-    return x.law();
-  }
-
-  private static int say(SyllableMaker x, String text) {
-    due("the tape of a speech", put(x, text), text.length());
-    return x.say();
-  }
-
-  private static SyllableMaker by(String law, String speech) {
-    SyllableMaker x = new SyllableMaker();
-    law(x, law);
-    due("fault(0) of " + law, x.fault(0), 0);
-    if (!speech.isEmpty()) {
-      say(x, speech);
-      due("fault(0) of " + speech, x.fault(0), 0);
-    }
-    return x;
-  }
-
-  private static void dueFault(String law, int fault, int place) {
-    SyllableMaker x = new SyllableMaker();
-    due("law " + law, law(x, law), NONE);
-    due("fault(0) of " + law, x.fault(0), fault);
-    due("fault(1) of " + law, x.fault(1), place);
-    due("about(6)", x.about(6), 0);
-  }
-
-  private static void dueRight(String law, int sounds) {
-    SyllableMaker x = new SyllableMaker();
-    due("law " + law, law(x, law), sounds);
-    due("fault(0) of " + law, x.fault(0), 0);
-    due("fault(1) of " + law, x.fault(1), NONE);
+    tell("all promises hold");
   }
 
   private static void newObject() {
@@ -286,12 +229,6 @@ public final class PromiseTests {
     dueFault("cost bare 1;cost shut 1;cost bare 1;", 2, 29);
     dueRight("cost bare 999;cost shut 0;cost rough 1;cost wild 2;cost burst 3;cost clash 4;", 0);
     dueFault("cost bare 9;cost shut 0;cost rough 1;cost wild 2;cost burst 3;cost clash 4;cost wild 1;", 2, 80);
-  }
-
-  private static String sounds(int n) {
-    StringBuilder law = new StringBuilder();
-    for (int i = 0; i < n; i++) law.append("sound ").append((char) ('a' + i)).append(i < 6 ? " 9 peak;" : " 1;");
-    return law.toString();
   }
 
   private static void lawLimits() {
@@ -504,12 +441,6 @@ public final class PromiseTests {
     due("at(-1, 0)", x.at(-1, 0), NONE);
   }
 
-  private static void dueSyllable(SyllableMaker x, int word, int cut, int k, int... want) {
-    for (int what = 0; what < want.length; what++) {
-      due("syllable(" + word + ", " + cut + ", " + k + ", " + what + ")", x.syllable(word, cut, k, what), want[what]);
-    }
-  }
-
   private static void syllables() {
     promise = "11 syllable";
     SyllableMaker x = by(BASE + "word snata;word asta;", "past asi apla pst tapstrain");
@@ -629,12 +560,6 @@ public final class PromiseTests {
     due("learnt", x.rhyme(0, 100), NONE);
     due("none such", x.rhyme(-1, 0), NONE);
     due("the CLOSING counts", by("sound a 9 peak;sound b 1;", "ba bab").rhyme(0, 1), 0);
-  }
-
-  private static void dueMended(SyllableMaker x, int word, int... places) {
-    due("mend(" + word + ", NONE)", x.mend(word, NONE), places.length);
-    for (int i = 0; i < places.length; i++) due("mend(" + word + ", " + i + ")", x.mend(word, i), places[i]);
-    due("mend(" + word + ", behind)", x.mend(word, places.length), NONE);
   }
 
   private static void mending() {

@@ -1,0 +1,65 @@
+import java.lang.reflect.InvocationTargetException;
+import java.lang.reflect.Method;
+import java.nio.file.Files;
+import java.nio.file.Path;
+import java.util.ArrayList;
+import java.util.Arrays;
+import java.util.Comparator;
+import java.util.HashMap;
+import java.util.List;
+import java.util.Map;
+
+/**
+ * What the tests of the document's edges share: each of their methods is a test of its own, and tells the
+ * heading and the sentence of ../shared/DOC.md that it holds; both must stand there, word by word.
+ */
+abstract class Edges extends Bench {
+  private static final Map<String, String> SECTIONS = new HashMap<>();
+  private static int held = 0;
+
+  /** Runs each method of the class that takes nothing, but for main. */
+  static void run(Class<?> tests) throws Exception {
+    readDocument();
+    Method[] all = tests.getDeclaredMethods();
+    Arrays.sort(all, Comparator.comparing(Method::getName));
+    int count = 0;
+    for (Method test : all) {
+      if (test.getParameterCount() > 0 || test.getReturnType() != void.class) continue;
+      runOne(test);
+      count++;
+    }
+    tell(tests.getSimpleName() + ": all " + count + " sentences hold");
+  }
+
+  private static void runOne(Method test) throws Exception {
+    held = 0;
+    promise = test.getName();
+    test.setAccessible(true);
+    try {
+      test.invoke(null);
+    } catch (InvocationTargetException e) {
+      wrong++;
+      System.out.println(promise + ": threw " + e.getCause());
+    }
+    due("sentences of " + test.getName(), held, 1);
+  }
+
+  private static void readDocument() throws Exception {
+    String heading = "";
+    Map<String, List<String>> lines = new HashMap<>();
+    for (String line : Files.readAllLines(Path.of("../shared/DOC.md"))) {
+      if (line.startsWith("## ")) heading = line.substring(3);
+      lines.computeIfAbsent(heading, h -> new ArrayList<>()).add(line);
+    }
+    lines.forEach((h, section) -> SECTIONS.put(h, String.join(" ", section)));
+  }
+
+  /** The test that runs holds this sentence, or this part of one, under this heading. */
+  static void holds(String heading, String sentence) {
+    promise = heading + " \"" + sentence + "\"";
+    held++;
+    if (SECTIONS.getOrDefault(heading, "").contains(sentence)) return;
+    wrong++;
+    System.out.println(promise + " does not stand in ../shared/DOC.md");
+  }
+}
