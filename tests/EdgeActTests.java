@@ -63,6 +63,24 @@ public final class EdgeActTests extends Edges {
     due("no SOUNDS", new SyllableMaker().possible(1), 0);
   }
 
+  private static void possibleByRiseAndFall() {
+    holds(TERMS, "A CLOSING is LEGAL, if it has no more SOUNDS than close tells, and they fall so.");
+    // the first SOUND is no PEAK; b 1, c 2, d 4: rise 2 leaves bd, cd; fall 1 leaves cb, db, dc, dcb
+    SyllableMaker x = by("sound b 1;sound a 9 peak;sound c 2;sound d 4;rise 2;close 4 1;", "");
+    // OPENINGS 1, 3, 2, 0, 0; CLOSINGS 1, 3, 3, 1, 0
+    due("possible(1)", x.possible(1), 1);
+    due("possible(2)", x.possible(2), 3 + 3 + 1);
+    due("possible(3)", x.possible(3), (2 + 9 + 3) + (3 + 3));
+    due("possible(4)", x.possible(4), (2 * 3 + 3 * 3 + 1) + (2 + 9 + 3));
+    due("possible(5)", x.possible(5), (2 * 3 + 3) + (2 * 3 + 3 * 3 + 1));
+    due("possible(6)", x.possible(6), 2 + (2 * 3 + 3));
+    // told ones that rise, that do not, of two, of three
+    SyllableMaker y = by("sound b 1;sound a 9 peak;sound c 2;sound d 4;rise 2;close 0 0;open bd;open cb;open bbb;", "");
+    int[] want = {1, 3 + 1, 3 + 3, 1 + 3, 1, 0};
+    for (int n = 1; n <= 6; n++) due("told, possible(" + n + ")", y.possible(n), want[n - 1]);
+    due("told, the first and the twelfth", by("sound b 1;sound a 9 peak;close 0 0;open bb;", "").possible(3), 1 + 1);
+  }
+
   private static void possibleUnlikeOnes() {
     holds("Promise 24: possible", "(a HEART of one or two SOUNDS)");
     // bb is told, LEARNT and RISING: it is one; bbbbb begins a word, and is none
@@ -75,6 +93,7 @@ public final class EdgeActTests extends Edges {
     due("possible(3)", y.possible(3), 2);
     due("possible(4)", y.possible(4), 1);
     due("possible(5)", y.possible(5), 0);
+    due("LEARNT of the second word, of the third", by("sound a 9 peak;sound b 1;sound c 1;close 0 0;word a;word bba;word cca;word bba;", "").possible(3), 2 + 2);
   }
 
   private static void possibleOfAnotherN() {
@@ -96,6 +115,8 @@ public final class EdgeActTests extends Edges {
     due("the third, b", x.tally(0, 2, 2), B);
     due("the fourth, of none", x.tally(0, 3, 1), 0);
     due("how often", x.tally(0, 3, 0), 2);
+    due("by PLAIN CUT: ab.ba has two CLOSINGS", by(FIVE + "word abba;", "").tally(2, NONE, 0), 2);
+    due("by PLAIN CUT: an OPENING of none, of b", by(FIVE + "word abba;", "").tally(0, 1, 1), 1);
     due("the first HEART", x.tally(1, 0, 2), A);
     due("the second HEART", x.tally(1, 1, 2), E);
     due("how often", x.tally(1, 0, 0) * 10 + x.tally(1, 1, 0), 33);
@@ -126,6 +147,24 @@ public final class EdgeActTests extends Edges {
     due("how often", y.tally(0, 0, 0), 240);
     due("HEARTS", y.tally(1, NONE, 0), 2);
     due("how often", y.tally(1, 1, 0), 120);
+    dueEightyOpenings();
+  }
+
+  /** Twenty words of four SYLLABLES, of which each has an OPENING of two SOUNDS of its own. */
+  private static void dueEightyOpenings() {
+    StringBuilder law = new StringBuilder("sound a 9 peak;rise 0;");
+    for (char c = 'b'; c <= 'k'; c++) law.append("sound ").append(c).append(" 1;");
+    for (int i = 0; i < 80; i++) {
+      law.append(i % 4 == 0 ? "word " : "").append((char) ('b' + i / 10)).append((char) ('b' + i % 10)).append(i % 4 == 3 ? "a;" : "a");
+    }
+    SyllableMaker x = by(law.toString(), "");
+    due("eighty OPENINGS", x.tally(0, NONE, 0), 80);
+    for (int i = 0; i < 80; i++) {
+      due("how often " + i, x.tally(0, i, 0), 1);
+      due("its first SOUND", x.tally(0, i, 2), 1 + i / 10);
+      due("its second SOUND", x.tally(0, i, 3), 1 + i % 10);
+    }
+    due("behind the last", x.tally(0, 80, 0), NONE);
   }
 
   private static void tallyThereIsNot() {
@@ -290,11 +329,58 @@ public final class EdgeActTests extends Edges {
     due("the oldest is gone", x.about(10), 1);
     due("undo()", x.undo(), NONE);
     due("about(10)", x.about(10), 1);
+    dueThirteenMixed();
     // many more than twelve
     for (int i = 0; i < 400; i++) x.cost(1, i % 2 + 1);
     for (int left = 11; left >= 0; left--) due("undo()", x.undo(), left);
     due("about(11)", x.about(11), 2);
     due("undo()", x.undo(), NONE);
+  }
+
+  /** The oldest of thirteen goes; the twelve others, of all kinds, are taken back one by one. */
+  private static void dueThirteenMixed() {
+    SyllableMaker x = by(FIVE + "cost bare 3;cost shut 4;cost rough 5;word a;word b;word c;word d;", "e");
+    x.cost(1, 44);
+    x.forget(100);
+    x.learn(0);
+    x.forget(101);
+    x.cost(2, 55);
+    x.forget(100);
+    x.learn(0);
+    x.cost(0, 33);
+    x.forget(101);
+    x.forget(100);
+    x.cost(2, 66);
+    x.forget(100);
+    due("no words are left", x.about(3), 0);
+    due("twelve", x.about(5), 12);
+    due("the thirteenth", x.learn(0), 100);
+    // how many words, and the first of them, behind each UNDO
+    int[] count = {0, 1, 1, 2, 3, 3, 2, 3, 3, 4, 3, 4};
+    int[] first = {NONE, E, E, D, D, D, D, B, B, B, B, A};
+    int[] bare = {33, 33, 33, 33, 33, 3, 3, 3, 3, 3, 3, 3};
+    int[] rough = {66, 66, 55, 55, 55, 55, 55, 55, 5, 5, 5, 5};
+    for (int i = 0; i < 12; i++) {
+      due("undo()", x.undo(), 11 - i);
+      due("words behind UNDO " + i, x.about(3), count[i]);
+      due("the first behind UNDO " + i, x.at(100, 0), first[i]);
+      due("bare behind UNDO " + i, x.about(10), bare[i]);
+      due("shut is not taken back", x.about(11), 44);
+      due("rough behind UNDO " + i, x.about(12), rough[i]);
+    }
+    due("the oldest went", x.undo(), NONE);
+    int[] all = {A, B, C, D};
+    for (int i = 0; i < 4; i++) due("at(" + (100 + i) + ", 0)", x.at(100 + i, 0), all[i]);
+    // words are forgotten by the oldest and by the latest of the twelve that are kept
+    SyllableMaker y = by(FIVE + "word b;word c;", "");
+    y.cost(0, 1);
+    y.forget(100);
+    for (int i = 2; i <= 11; i++) y.cost(0, i);
+    y.forget(100);
+    for (int left = 11; left >= 0; left--) due("undo()", y.undo(), left);
+    due("at(100, 0)", y.at(100, 0), B);
+    due("at(101, 0)", y.at(101, 0), C);
+    due("about(10)", y.about(10), 1);
   }
 
   private static void undoOfWords() {
@@ -347,6 +433,7 @@ public final class EdgeActTests extends Edges {
     due("of 4", by(FIVE + "word bcdba;", "").about(7), 1);
     due("of 5", by(FIVE + "word bcdbca;", "").about(7), 0);
     due("alike ones", by(FIVE + "word bca;word bcab;word bce;", "").about(7), 1);
+    due("alike ones behind an unlike one", by(FIVE + "word cba;word bca;word bca;", "").about(7), 2);
     due("unlike ones", by(FIVE + "word bca;word cba;word bcba;", "").about(7), 3);
     due("without HEARTS", by(FIVE + "word bc;word bcb;", "").about(7), 0);
     // told and RISING ones are LEARNT, too

@@ -243,6 +243,7 @@ public final class EdgeCutTests extends Edges {
   private static void costClash() {
     holds(TERMS, "clash, if it and the one ahead are HEAVY.");
     due("none is ahead of the first", cost("cost clash 7;", "aa"), 0);
+    due("none is ahead, a short one is HEAVY", cost("cost clash 7;weigh 9 9 9 1;", "a"), 0);
     due("both", cost("cost clash 7;", "aabaa"), 7);
     due("the one ahead alone", cost("cost clash 7;", "aaba"), 0);
     due("it alone", cost("cost clash 7;", "abaa"), 0);
@@ -252,6 +253,20 @@ public final class EdgeCutTests extends Edges {
     due("the first one's", x.syllable(0, 0, 0, 6), 0);
     due("the second one's", x.syllable(0, 0, 1, 6), 7);
     due("none by the WORD ahead", x.syllable(1, 2, 0, 6), 0);
+  }
+
+  private static void costOfAll() {
+    holds(TERMS, "COST of a SYLLABLE: bare without an OPENING; shut for each closing SOUND; rough for an OPENING of 2 .. 4 that is LEGAL as RISING alone, wild for one that is not LEGAL; burst for a CLOSING that is not LEGAL; clash, if it and the one ahead are HEAVY.");
+    String lines = "rise 1;close 2 0;cost bare 1;cost shut 10;cost rough 100;cost wild 200;cost burst 300;cost clash 400;";
+    // what can be had together, of the first SYLLABLE and of one behind a HEAVY one
+    due("bare, shut, burst", cost(lines, "abbb"), 1 + 30 + 300);
+    due("rough, shut, burst", cost(lines, "bcabbb"), 100 + 30 + 300);
+    due("wild, shut", cost(lines, "bbabb"), 200 + 20);
+    SyllableMaker x = by(FIVE + lines, "aabcabbb aabbabbb eaaabbb");
+    due("rough, shut, burst, clash", x.syllable(0, 0, 1, 6), 100 + 30 + 300 + 400);
+    due("wild by its cut, shut, burst, clash", x.judge(1, 0, 0), 1 + 200 + 30 + 300 + 400);
+    due("bare, shut, burst, clash", x.syllable(2, 0, 2, 6), 1 + 30 + 300 + 400);
+    due("the most of one", by(FIVE + "close 0 0;cost shut 999;cost burst 999;cost bare 999;", "abbbbbbbbbbb").word(0, 3), 999 * 13);
   }
 
   private static void weightFromSoMuchOn() {
@@ -471,6 +486,12 @@ public final class EdgeCutTests extends Edges {
     SyllableMaker x = by(FIVE + "word ba;", "ab a");
     for (int what = 0; what <= 6; what++) due("learnt, JOINED, " + what, x.syllable(100, 2, 0, what), -100);
     due("learnt, PLAIN", x.syllable(100, 0, 0, 1), 1);
+    // whatever was asked ahead
+    due("learnt, JOINED", x.syllable(100, 2, 0, 1), -100);
+    due("not learnt, JOINED", x.syllable(101, 2, 0, 1), -100);
+    x.learn(0);
+    due("said, JOINED", x.syllable(0, 2, 0, 2), 1);
+    due("learnt, JOINED", x.syllable(101, 2, 0, 2), -100);
     due("learnt, CHEAPEST", x.syllable(100, 1, 0, 1), 1);
     due("said, JOINED", x.syllable(1, 2, 0, 1), 1);
     for (int cut : new int[] {-1, 3, LEAST, MOST}) due("cut " + cut, x.syllable(0, cut, 0, 0), -100);

@@ -438,6 +438,21 @@ public final class EdgeLawTests extends Edges {
     holds(TERMS, "2 one that can't stand there (a line that is told once alone, a cost of one NAME, the second time, too: at its word, at the NAME)");
     dueFault("peak;", 2, 0);
     dueFault("bare 1;", 2, 0);
+    // no line's word, no NAME, no peak: but for the first, the last letter, one more
+    dueFault("round a 1;", 2, 0);
+    dueFault("sounb a 1;", 2, 0);
+    dueFault("soun a 1;", 2, 0);
+    dueFault("sounds a 1;", 2, 0);
+    dueFault("sound a 1 beak;", 2, 10);
+    dueFault("sound a 1 pea;", 2, 10);
+    dueFault("cost dare 1;", 2, 5);
+    dueFault("cost barn 1;", 2, 5);
+    // a sign where a ROW must stand
+    dueFault("sound ;", 2, 6);
+    dueFault("open ;", 2, 5);
+    dueFault("glide ;", 2, 6);
+    dueFault("help ;", 2, 5);
+    dueFault("word ;", 2, 5);
     dueFault("7;", 2, 0);
     dueFault("sound sound;", 4, 6);
     dueFault("sound a sound;", 2, 8);
@@ -639,6 +654,38 @@ public final class EdgeLawTests extends Edges {
     due("learn(0)", x.learn(0), NONE);
     due("speech(0)", x.speech(0), NONE);
     due("beat(0)", x.beat(0), NONE);
+  }
+
+  private static void lawKeepsNothingOfOthers() {
+    holds("Promise 4: law", "is the LAW");
+    String much = FIVE + "open bc;glide ae;rise 1;close 1 1;weigh 3 3 3 3;stress 4 9;help a;move 4;cost bare 7;cost clash 7;word bda;word a;";
+    // what is told once alone may be told again in the next LAW
+    SyllableMaker x = by(much, "");
+    due("the same once more", law(x, much), 5);
+    // behind two of them, and behind one with a FAULT at its end, a LAW of a few lines has these alone
+    dueFewLines(x);
+    dueFewLines(by(much, ""));
+    SyllableMaker y = by(much, "");
+    due("a FAULT", law(y, much + "cost clash 8;"), NONE);
+    dueFewLines(y);
+    due("a FAULT", law(y, much + "!"), NONE);
+    due("all but its end again", law(y, much), 5);
+  }
+
+  private static void dueFewLines(SyllableMaker x) {
+    due("a LAW of a few lines", law(x, "sound b 1;sound c 2;sound e 9 peak;sound a 9 peak;"), 4);
+    int[] want = {4, 0, 0, 0, 0, 0, 0, 0, NONE, NONE, 0, 0, 0, 0, 0, 0};
+    for (int what = 0; what < want.length; what++) due("about(" + what + ")", x.about(what), want[what]);
+    due("a new number", x.sound(0, 0), 'b');
+    due("no fifth one", x.sound(4, 0), NONE);
+    due("no open, no rise", x.opening(0, 1, -1, -1), 0);
+    due("say", say(x, "abbbb ae eaa"), 3);
+    due("no close", x.judge(0, 0, 1), NONE);
+    due("no weigh", x.syllable(0, 0, 0, 4), 5);
+    due("no stress", x.word(2, 2), 0);
+    due("no glide", x.word(1, 1), 2);
+    due("no help", x.mend(0, NONE), -2);
+    due("no move", x.joins(1), 1);
   }
 
   private static void lawTellsHowMany() {

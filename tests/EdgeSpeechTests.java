@@ -54,6 +54,13 @@ public final class EdgeSpeechTests extends Edges {
     // as it is alone: what came to the WORD from the one ahead does not count
     SyllableMaker x = by(FIVE + "rise 0;move 4;", "abb abb abb a");
     for (int k = 1; k <= 3; k++) due("joins(" + k + ")", x.joins(k), 2);
+    // what it is as an OPENING tells its COST: RISING alone, told, of one SOUND
+    String costs = "move 2;rise 1;cost bare 7;cost rough 5;cost wild 50;";
+    due("bc, RISING alone", by(FIVE + costs, "abc a").syllable(1, 2, 0, 6), 5);
+    due("bc, told", by(FIVE + costs + "open bc;", "abc a").syllable(1, 2, 0, 6), 0);
+    due("bc, RISING, to one with SOUNDS of its own behind", by(FIVE + costs, "abc acb").syllable(1, 2, 0, 6), 5);
+    due("cb: b", by(FIVE + costs, "acb a").syllable(1, 2, 0, 6), 0);
+    due("nothing goes over", by(FIVE + costs, "a a").syllable(1, 2, 0, 6), 7);
     // the last CLOSING, not one of a GAP
     due("the last CLOSING is empty", joined("move 4;", "abba a"), 0);
   }
@@ -65,6 +72,7 @@ public final class EdgeSpeechTests extends Edges {
     dueSyllable(x, 0, 2, 1, 2, 1, 1, 1, 2, 1);
     dueSyllable(x, 1, 2, 0, -2, 2, 1, 0, 1, 0);
     dueSyllable(x, 1, 2, 1, 1, 2, 1, 0, 1, 0);
+    due("COST of nothing", x.syllable(1, 2, 0, 6), 0);
     // WORDS, and what is asked of one alone, are as they were
     dueSyllable(x, 0, 0, 1, 2, 1, 1, 3, 4, 1);
     dueSyllable(x, 1, 0, 0, 0, 0, 1, 0, 1, 0);
@@ -154,6 +162,16 @@ public final class EdgeSpeechTests extends Edges {
     due("eleven put in", x.far(0, 1), 55);
     due("eleven left out", x.far(1, 0), 55);
     due("twelve for twelve", x.far(1, 2), 120);
+    say(x, "bba a abb bca ba cbba");
+    due("two left out ahead", x.far(0, 1), 10);
+    due("two put in ahead", x.far(1, 0), 10);
+    due("two left out behind", x.far(2, 1), 10);
+    due("two put in behind", x.far(1, 2), 10);
+    due("one left out between", x.far(3, 4), 5);
+    due("one put in between", x.far(4, 3), 5);
+    due("one put in ahead, alike ones behind", x.far(0, 5), 5);
+    due("one left out, one for another", x.far(5, 3), 6);
+    say(x, "a aaaaaaaaaaaa bbbbbbbbbbbb ab ba");
     due("put in ahead, left out behind", x.far(3, 4), 10);
     due("the most alike", x.far(2, 2), 0);
   }
@@ -166,7 +184,9 @@ public final class EdgeSpeechTests extends Edges {
     due("not itself, but the one ahead", x.nearest(101), 100);
     due("the last", x.nearest(1), 103);
     due("alike", x.nearest(2), 103);
-    due("one of its own", by(FIVE + "word ba;word e;", "a").nearest(100), 101);
+    SyllableMaker y = by(FIVE + "word ba;word e;", "a");
+    due("the other one behind", y.nearest(100), 101);
+    due("the other one ahead", y.nearest(101), 100);
   }
 
   private static void partsOfLikeWords() {
@@ -201,6 +221,10 @@ public final class EdgeSpeechTests extends Edges {
     due("none", x.misfits(2, 1), 0);
     due("one of each and more", x.misfits(4, 1), 1);
     due("all BEATS are wrong", x.misfits(4, 0), 3);
+    // STRESSED by what PLAIN CUT makes HEAVY
+    SyllableMaker y = by(FIVE + "stress 1 9;", "babbaba");
+    due("the first one is STRESSED", y.misfits(4, 0), 0);
+    due("the last one is not", y.misfits(4, 2), 2);
   }
 
   private static void numberedThrough() {
@@ -239,6 +263,11 @@ public final class EdgeSpeechTests extends Edges {
     due("the largest n", w.beat(0), 4);
     due("the largest f", w.beat(1), 3);
     due("MISFITS", w.beat(2), 0);
+    // n 5 would fit
+    SyllableMaker v = by(FIVE + "stress 1;", "aeaea");
+    due("no n fits", v.beat(0), 3);
+    due("its f", v.beat(1), 1);
+    due("MISFITS", v.beat(2), 1);
   }
 
   // ---- promises 14 to 19
@@ -256,6 +285,9 @@ public final class EdgeSpeechTests extends Edges {
     due("itself", x.rhyme(0, 0), 1);
     // the HEART, from its first SOUND on
     due("a LONG one", by(FIVE + "stress 1;", "baa ba").rhyme(0, 1), 0);
+    // STRESSED by what PLAIN CUT makes HEAVY
+    due("abbaba, bebbaba", by(FIVE + "stress 1 9;", "abbaba bebbaba").rhyme(0, 1), 0);
+    due("abbaba, abbaba", by(FIVE + "stress 1 9;", "abbaba cabbaba").rhyme(0, 1), 1);
     due("another HEART", by(FIVE + "stress 1;", "ba be").rhyme(0, 1), 0);
     due("twelve", by(FIVE + "stress 4;", "abbbbbbbbbbb abbbbbbbbbbb").rhyme(0, 1), 1);
     due("twelve, the last is another", by(FIVE + "stress 4;", "abbbbbbbbbbb abbbbbbbbbbc").rhyme(0, 1), 0);
@@ -386,6 +418,27 @@ public final class EdgeSpeechTests extends Edges {
     for (int what : new int[] {-1, 3, LEAST, MOST}) due("speech(" + what + ")", x.speech(what), NONE);
     law(x, FIVE);
     for (int what = 0; what <= 2; what++) due("a new LAW, " + what, x.speech(what), NONE);
+  }
+
+  private static void speechHeavy() {
+    holds("Promise 21: speech", "How many SYLLABLES of SPEECH, JOINED, are HEAVY (what 0), how many were by PLAIN CUT (1)");
+    SyllableMaker x = by(FIVE, "a");
+    due("none, JOINED", x.speech(0), 0);
+    due("none, PLAIN", x.speech(1), 0);
+    // aa.e.aa, ab.bab, bab.bab, a, b, abb: of bab.bab the last b goes over to a
+    say(x, "aaeaa abbab babbab a b abb");
+    due("JOINED", x.speech(0), 2 + 2 + 1 + 0 + 0 + 1);
+    due("PLAIN", x.speech(1), 2 + 2 + 2 + 0 + 0 + 1);
+    say(x, "ab ab ab ab ab ab ab ab");
+    due("all eight, JOINED", x.speech(0), 1);
+    due("all eight, PLAIN", x.speech(1), 8);
+    say(x, "aaeeaaeeaaee");
+    due("six of one WORD, JOINED", x.speech(0), 6);
+    due("six of one WORD, PLAIN", x.speech(1), 6);
+    // an OPENING that comes does not make it heavier
+    say(x, "ab ab");
+    due("the second one alone, JOINED", x.speech(0), 1);
+    due("both, PLAIN", x.speech(1), 2);
   }
 
   private static void speechChanged() {

@@ -17,14 +17,14 @@ abstract class Edges extends Bench {
   private static final Map<String, String> SECTIONS = new HashMap<>();
   private static int held = 0;
 
-  /** Runs each method of the class that takes nothing, but for main. */
+  /** Runs each method of the class that takes nothing, but for those that only ask: due.. . */
   static void run(Class<?> tests) throws Exception {
     readDocument();
     Method[] all = tests.getDeclaredMethods();
     Arrays.sort(all, Comparator.comparing(Method::getName));
     int count = 0;
     for (Method test : all) {
-      if (test.getParameterCount() > 0 || test.getReturnType() != void.class) continue;
+      if (test.getParameterCount() > 0 || test.getReturnType() != void.class || test.getName().startsWith("due")) continue;
       runOne(test);
       count++;
     }
