@@ -1,12 +1,5 @@
 /** The edges of what can be, what is made, and of ACTS: a test for each sentence that names one. */
 public final class EdgeActTests extends Edges {
-  private static final String TERMS = "Terms";
-  private static final String FIVE = "sound a 9 peak;sound e 9 peak;sound b 1;sound c 2;sound d 3;";
-  private static final int A = 0;
-  private static final int E = 1;
-  private static final int B = 2;
-  private static final int C = 3;
-  private static final int D = 4;
   private static final int BLANKS = 0x20202020;
 
   private EdgeActTests() { }

@@ -1,11 +1,5 @@
 /** The edges of WORDS that are cut: a test for each sentence that names one. */
 public final class EdgeCutTests extends Edges {
-  private static final String TERMS = "Terms";
-  private static final String FIVE = "sound a 9 peak;sound e 9 peak;sound b 1;sound c 2;sound d 3;";
-  private static final int A = 0;
-  private static final int B = 2;
-  private static final int C = 3;
-  private static final int D = 4;
   /** Numbers that no word of SPEECH and none that is learnt has, if there are eight and twenty. */
   private static final int[] NO_WORDS = {-1, -2, 8, 9, 99, 120, 121, LEAST, MOST};
 

@@ -1,7 +1,5 @@
 /** The edges of the TAPE, the LAW and of what is said: a test for each sentence that names one. */
 public final class EdgeLawTests extends Edges {
-  private static final String TERMS = "Terms";
-  private static final String FIVE = "sound a 9 peak;sound e 9 peak;sound b 1;sound c 2;sound d 3;";
   private static final int AT = FIVE.length();
 
   private EdgeLawTests() { }

@@ -1,7 +1,5 @@
 /** The edges of SPEECH, of what is mended, how FAR it is and how it beats: a test for each sentence that names one. */
 public final class EdgeSpeechTests extends Edges {
-  private static final String TERMS = "Terms";
-  private static final String FIVE = "sound a 9 peak;sound e 9 peak;sound b 1;sound c 2;sound d 3;";
   private static final int[] NO_WORDS = {-1, -2, 8, 9, 99, 101, 119, 120, LEAST, MOST};
 
   private EdgeSpeechTests() { }
