@@ -10,7 +10,7 @@ import java.util.List;
 import java.util.Map;
 
 /**
- * What the tests of the document's edges share: each of their methods is a test of its own, and tells the
+ * What the tests of the document's sentences share: each of their methods is a test of its own, and tells the
  * heading and the sentence of ../shared/DOC.md that it holds; both must stand there, word by word.
  */
 abstract class Edges extends Bench {
@@ -68,11 +68,16 @@ abstract class Edges extends Bench {
     lines.forEach((h, section) -> SECTIONS.put(h, String.join(" ", section)));
   }
 
+  /** All that stands under a heading; nothing, if there is no document to look it up in. */
+  static String section(String heading) {
+    return SECTIONS.getOrDefault(heading, "");
+  }
+
   /** The test that runs holds this sentence, or this part of one, under this heading. */
   static void holds(String heading, String sentence) {
     promise = heading + " \"" + sentence + "\"";
     held++;
-    if (SECTIONS.isEmpty() || SECTIONS.getOrDefault(heading, "").contains(sentence)) return;
+    if (SECTIONS.isEmpty() || section(heading).contains(sentence)) return;
     wrong++;
     System.out.println(promise + " does not stand in " + DOCUMENT);
   }
